@@ -689,27 +689,31 @@ public final class PairpicturesPromises {
 
     private static void houseAndKnock() {
         Pairpictures x = filled(0);
+        x.put(1, 1, 1);
+        x.put(1, 2, 2);
         x.put(2, 1, 1);
         x.picture(0, 0, 0, 3);
         x.picture(0, 0, 0, 4);
-        x.picture(1, 0, 0, 4);
-        x.key(1, 0, 0);
-        x.key(1, 2, 0);
-        x.setKey(1, true, 1, 0);
+        x.empty(0);
+        x.picture(0, 0, 0, 4);
+        x.key(0, 0, 0);
+        x.key(0, 2, 0);
+        x.setKey(0, true, 1, 0);
         x.setAdd(0, true, 0);
         x.walk(0, false);
         x.walk(0, true);
-        x.walk(1, true);
-        x.empty(0);
+        x.walk(2, true);
         promise = 43;
         due(1, "first", () -> x.knock());
         due(2, "second", () -> x.knock());
         promise = 42;
-        due(1, "pairs", () -> x.house(0));
+        due(3, "pairs", () -> x.house(0));
         due(1, "pictures", () -> x.house(1));
         due(3, "refused", () -> x.house(2));
         due(2, "knocks", () -> x.house(3));
         due(2, "walks", () -> x.house(4));
+        x.walk(1, true);
+        due(3, "walks of all", () -> x.house(4));
         due(BAD, "what 5", () -> x.house(5));
         due(BAD, "what -1", () -> x.house(-1));
     }

@@ -698,6 +698,7 @@ public final class Pairpictures {
         private final int[] keyRow;
         private final int[] valueRow;
         private final Walk walk;
+        // From 0 to ROOM at all times.
         private int count;
 
         Table(boolean isTurnedRound) {
@@ -724,10 +725,12 @@ public final class Pairpictures {
             int low = 0;
             int high = count;
             // Halving ROOM places ends long before; the steps are counted so that the end is plain.
+            // No calls inside: isSound and digest search some thousand times.
             for (int step = 0; step < ROOM && low < high; step++) {
                 int middle = (low + high) >>> 1;
-                int there = keyAt(middle);
-                if (isAhead(there, key) || isWithKey && there == key) {
+                int there = middle < count ? keyRow[middle] : key;
+                boolean isThereAhead = isGreaterAhead ? there > key : there < key;
+                if (isThereAhead || isWithKey && there == key) {
                     low = middle + 1;
                 } else {
                     high = middle;
