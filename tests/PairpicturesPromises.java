@@ -1,43 +1,5 @@
-import java.util.concurrent.Callable;
-
 /** For each promise its ordinary inputs, the edges that the document names, and wrong inputs. */
-public final class PairpicturesPromises {
-    private static final String NO_PLACE = "throws.IndexOutOfBoundsException";
-    private static final String BAD = "throws.IllegalArgumentException";
-    private static final String BAD_STATE = "throws.IllegalStateException";
-    private static final int MIN = Integer.MIN_VALUE;
-    private static final int MAX = Integer.MAX_VALUE;
-
-    private static int wrong = 0;
-    private static int promise = 0;
-
-    private static String told(Callable<Object> call) {
-        try {
-            return String.valueOf(call.call());
-        } catch (Exception thrown) {
-            return "throws." + thrown.getClass().getSimpleName();
-        }
-    }
-
-    private static void due(Object want, String name, Callable<Object> call) {
-        String got = told(call);
-        if (!got.equals(String.valueOf(want))) {
-            wrong++;
-            System.out.println("promise " + promise + ": " + name + " answered " + got
-                    + ", due is " + want);
-        }
-    }
-
-    /** Table 0 or 1: {1=10, 3=null, 5=50, 9=7}; table 2 the other way round. */
-    private static Pairpictures filled(int table) {
-        Pairpictures x = new Pairpictures();
-        x.put(table, 5, 50);
-        x.put(table, 1, 10);
-        x.put(table, 9, 7);
-        x.put(table, 3, -1);
-        return x;
-    }
-
+public final class PairpicturesPromises extends Sentences {
     private static void newObject() {
         Pairpictures x = new Pairpictures();
         for (int t = 0; t <= 2; t++) {
@@ -200,14 +162,14 @@ public final class PairpicturesPromises {
 
     private static void valueAndValueOr() {
         Pairpictures x = filled(0);
-        promise = 11;
+        about("promise 11");
         due(50, "there", () -> x.value(0, 5));
         due(-1, "nothing", () -> x.value(0, 3));
         due(-1, "not there", () -> x.value(0, 4));
         due(-1, "another table", () -> x.value(1, 5));
         due(NO_PLACE, "table 3", () -> x.value(3, 5));
         due(NO_PLACE, "table -1", () -> x.value(-1, 5));
-        promise = 12;
+        about("promise 12");
         due(50, "there", () -> x.valueOr(0, 5, 1000));
         due(-1, "nothing", () -> x.valueOr(0, 3, 1000));
         due(1000, "not there", () -> x.valueOr(0, 4, 1000));
@@ -217,13 +179,13 @@ public final class PairpicturesPromises {
 
     private static void hasAndHasValue() {
         Pairpictures x = filled(2);
-        promise = 13;
+        about("promise 13");
         due(true, "there", () -> x.has(2, 9));
         due(true, "nothing", () -> x.has(2, 3));
         due(false, "not there", () -> x.has(2, 4));
         due(false, "another table", () -> x.has(0, 9));
         due(NO_PLACE, "table 3", () -> x.has(3, 9));
-        promise = 14;
+        about("promise 14");
         due(true, "there", () -> x.hasValue(2, 7));
         due(true, "nothing", () -> x.hasValue(2, -1));
         due(false, "not there", () -> x.hasValue(2, 9));
@@ -237,12 +199,12 @@ public final class PairpicturesPromises {
 
     private static void sizeAndIsEmpty() {
         Pairpictures x = filled(1);
-        promise = 15;
+        about("promise 15");
         due(4, "some", () -> x.size(1));
         due(0, "none", () -> x.size(2));
         due(NO_PLACE, "table 3", () -> x.size(3));
         due(NO_PLACE, "table -1", () -> x.size(-1));
-        promise = 16;
+        about("promise 16");
         due(false, "some", () -> x.isEmpty(1));
         due(true, "none", () -> x.isEmpty(2));
         due(NO_PLACE, "table 3", () -> x.isEmpty(3));
@@ -376,42 +338,42 @@ public final class PairpicturesPromises {
         x.picture(0, 3, 5, 0);
         x.picture(0, 3, 3, 1);
         x.picture(0, 0, 0, 7);
-        promise = 24;
+        about("promise 24");
         due(true, "taken", () -> x.isThere(7));
         due(false, "not taken", () -> x.isThere(2));
-        promise = 25;
+        about("promise 25");
         due(5, "key", () -> x.keyOf(0));
         due(MIN, "the least", () -> x.keyOf(7));
-        promise = 26;
+        about("promise 26");
         due(50, "value", () -> x.valueOf(0));
         due(-1, "nothing", () -> x.valueOf(1));
-        promise = 27;
+        about("promise 27");
         due("5=50", "text", () -> x.textOf(0));
         due("3=null", "nothing", () -> x.textOf(1));
         due("-2147483648=2", "the least", () -> x.textOf(7));
-        promise = 28;
+        about("promise 28");
         due(5 ^ 50, "hash", () -> x.hashOf(0));
         due(3, "nothing", () -> x.hashOf(1));
         due(MIN + 2, "the least", () -> x.hashOf(7));
         for (int slot : new int[] {-1, 8}) {
-            promise = 24;
+            about("promise 24");
             due(NO_PLACE, "slot " + slot, () -> x.isThere(slot));
-            promise = 25;
+            about("promise 25");
             due(NO_PLACE, "slot " + slot, () -> x.keyOf(slot));
-            promise = 26;
+            about("promise 26");
             due(NO_PLACE, "slot " + slot, () -> x.valueOf(slot));
-            promise = 27;
+            about("promise 27");
             due(NO_PLACE, "slot " + slot, () -> x.textOf(slot));
-            promise = 28;
+            about("promise 28");
             due(NO_PLACE, "slot " + slot, () -> x.hashOf(slot));
         }
-        promise = 25;
+        about("promise 25");
         due(BAD_STATE, "none", () -> x.keyOf(2));
-        promise = 26;
+        about("promise 26");
         due(BAD_STATE, "none", () -> x.valueOf(2));
-        promise = 27;
+        about("promise 27");
         due(BAD_STATE, "none", () -> x.textOf(2));
-        promise = 28;
+        about("promise 28");
         due(BAD_STATE, "none", () -> x.hashOf(2));
     }
 
@@ -521,19 +483,19 @@ public final class PairpicturesPromises {
 
     private static void setHasAndSize() {
         Pairpictures x = filled(2);
-        promise = 35;
+        about("promise 35");
         due(true, "there", () -> x.setHas(2, true, 5));
         due(true, "nothing", () -> x.setHas(2, false, 3));
         due(false, "not there", () -> x.setHas(2, false, 4));
         due(NO_PLACE, "table 3", () -> x.setHas(3, true, 5));
-        promise = 36;
+        about("promise 36");
         due(4, "down", () -> x.setSize(2, true));
         due(4, "up", () -> x.setSize(2, false));
         due(0, "none", () -> x.setSize(0, false));
         due(NO_PLACE, "table 3", () -> x.setSize(3, true));
         x.put(2, 4, 4);
         due(5, "not kept apart", () -> x.setSize(2, true));
-        promise = 35;
+        about("promise 35");
         due(true, "not kept apart", () -> x.setHas(2, false, 4));
     }
 
@@ -555,7 +517,7 @@ public final class PairpicturesPromises {
 
     private static void walkAndIsMore() {
         Pairpictures x = filled(0);
-        promise = 38;
+        about("promise 38");
         due(false, "through none", () -> x.walk(1, false));
         due(true, "up", () -> x.walk(0, false));
         due("1", "up from the first", () -> x.next(0));
@@ -568,7 +530,7 @@ public final class PairpicturesPromises {
         due("1", "not lost", () -> x.next(0));
         due(NO_PLACE, "table 3", () -> x.walk(3, true));
         due(NO_PLACE, "table -1", () -> x.walk(-1, true));
-        promise = 39;
+        about("promise 39");
         due(true, "more", () -> x.isMore(0));
         due(false, "none", () -> x.isMore(1));
         x.put(1, 1, 1);
@@ -703,10 +665,10 @@ public final class PairpicturesPromises {
         x.walk(0, false);
         x.walk(0, true);
         x.walk(2, true);
-        promise = 43;
+        about("promise 43");
         due(1, "first", () -> x.knock());
         due(2, "second", () -> x.knock());
-        promise = 42;
+        about("promise 42");
         due(3, "pairs", () -> x.house(0));
         due(1, "pictures", () -> x.house(1));
         due(3, "refused", () -> x.house(2));
@@ -779,13 +741,8 @@ public final class PairpicturesPromises {
         due(due, "again", () -> x.digest());
     }
 
-    private interface Part {
-        void run();
-    }
-
-    private static void check(int number, Part part) {
-        promise = number;
-        part.run();
+    private static void check(int number, Runnable part) {
+        about("promise " + number, part);
     }
 
     public static void main(String[] args) {
@@ -825,10 +782,6 @@ public final class PairpicturesPromises {
         check(42, PairpicturesPromises::houseAndKnock);
         check(44, PairpicturesPromises::isSound);
         check(45, PairpicturesPromises::digest);
-        System.out.println(wrong == 0 ? "promises 1 to 45: all answers are as due"
-                : wrong + " answers are not as due");
-        if (wrong != 0) {
-            System.exit(1);
-        }
+        end("promises 1 to 45");
     }
 }
