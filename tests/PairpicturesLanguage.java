@@ -17,7 +17,7 @@ import java.util.stream.Collectors;
  * The face of the class, and those rules of LANGUAGE.md that can be seen by simple means. It is
  * run from the root of the project, where it finds the source.
  */
-public final class PairpicturesLanguage {
+public final class PairpicturesLanguage extends Sentences {
     private static final String I = "IndexOutOfBoundsException";
     private static final String A = I + ", IllegalArgumentException";
     private static final String S = I + ", IllegalStateException";
@@ -48,14 +48,7 @@ public final class PairpicturesLanguage {
         "\\bextends\\b", "\\bimplements\\b", "\\bvar\\b", "@", "\\bInteger\\b", "\\bMath\\b",
         "\\bSystem\\.(?!arraycopy\\b)", "\\bString\\.", "\\bnull\\b"};
 
-    private static int wrong = 0;
-
-    private static void fault(String what) {
-        wrong++;
-        System.out.println(what);
-    }
-
-    private static String shown(Method method) {
+    private static String written(Method method) {
         return method.getReturnType().getSimpleName() + " " + method.getName() + "("
                 + Arrays.stream(method.getParameterTypes()).map(Class::getSimpleName)
                         .collect(Collectors.joining(", ")) + ") "
@@ -69,7 +62,7 @@ public final class PairpicturesLanguage {
         Set<String> publicNames = new TreeSet<>();
         for (Method method : Pairpictures.class.getDeclaredMethods()) {
             if (!Modifier.isPrivate(method.getModifiers())) {
-                got.add(shown(method));
+                got.add(written(method));
                 publicNames.add(method.getName());
             }
         }
@@ -138,10 +131,6 @@ public final class PairpicturesLanguage {
     public static void main(String[] args) throws IOException {
         face();
         source();
-        System.out.println(wrong == 0 ? "face and language: all as due"
-                : wrong + " faults of face and language");
-        if (wrong != 0) {
-            System.exit(1);
-        }
+        end("face and language");
     }
 }
