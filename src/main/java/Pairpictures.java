@@ -113,7 +113,9 @@ public final class Pairpictures {
     public int addAll(int table, int other) throws IndexOutOfBoundsException {
         Table pairs = tableOf(table);
         Table added = tableOf(other);
-        for (int place = 0; place < added.count; place++) {
+        // Both may be the same table: how many come is settled before the first one does.
+        int all = added.count;
+        for (int place = 0; place < all; place++) {
             pairs.bring(added.keyAt(place), added.valueAt(place));
         }
         return pairs.count;
@@ -553,7 +555,8 @@ public final class Pairpictures {
 
     private boolean isSameAnew(Table pairs) {
         anew.takeAll();
-        for (int place = 0; place < pairs.count; place++) {
+        int all = pairs.count;
+        for (int place = 0; place < all; place++) {
             anew.bring(pairs.keyAt(place), pairs.valueAt(place));
         }
         return pairs.hasPairsOf(anew) && pairs.sumOfHashes() == anew.sumOfHashes();
