@@ -47,7 +47,8 @@ public final class LanguageRules extends Sentences {
     private static final Set<String> TYPES = Set.of("void", "int", "long", "char", "boolean",
             "java.lang.String", "java.lang.StringBuilder", "int[]", "boolean[]",
             "Pairpictures.Table", "Pairpictures.Album", "Pairpictures.Walk");
-    private static final Set<String> LIBRARY = Set.of("new Object()", "new StringBuilder()", "java.lang.StringBuilder.append(char)",
+    private static final Set<String> LIBRARY = Set.of("new Object()",
+            "new StringBuilder()", "java.lang.StringBuilder.append(char)",
             "java.lang.StringBuilder.append(int)",
             "java.lang.StringBuilder.append(java.lang.String)",
             "java.lang.StringBuilder.setLength(int)", "java.lang.StringBuilder.length()",
@@ -284,7 +285,7 @@ public final class LanguageRules extends Sentences {
             return super.visitMethodInvocation(tree, nothing);
         }
 
-        /** Rule 12: objects are made in constructors, exceptions where they are thrown, none in a loop. */
+        /** Rule 12: objects are made in constructors, exceptions where thrown, none in a loop. */
         @Override
         public Void visitNewClass(NewClassTree tree, Void nothing) {
             library(tree, "");
